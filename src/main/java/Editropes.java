@@ -24,8 +24,7 @@ public final class Editropes {
     // Eight splices of 40 signs and two numbers of eleven signs each.
     private static final int LONGEST_LINE = 600;
     // Above what an int can be, and far from where a long wraps around.
-    private static final long BEYOND_INT = 10_000_000_000L;
-    private static final long NO_NUMBER = Long.MAX_VALUE;
+    private static final long NO_NUMBER = 10_000_000_000L;
 
     private final Rope[] ropes;
     private final Script[] scripts;
@@ -35,6 +34,7 @@ public final class Editropes {
 
     // All that a call needs for a while is made once, as nothing that a run makes is ever given back.
     private final Splice deed;
+    private final Row sought;
     private final Script draft;
     private final Script carrier;
     private final Row before;
@@ -54,6 +54,7 @@ public final class Editropes {
             scripts[s] = new Script();
         }
         deed = new Splice();
+        sought = new Row(LONGEST_WORD);
         draft = new Script();
         carrier = new Script();
         before = new Row(MOST_BETWEEN_SPLICES);
@@ -224,7 +225,7 @@ public final class Editropes {
     public int find(int rope, int first, int many, int from) throws IndexOutOfBoundsException, IllegalArgumentException {
         Row asked = rowWithWordToFind(rope, first, many, from);
         for (int at = from; at <= asked.size - many; at++) {
-            if (asked.hasAt(at, deed.text)) {
+            if (asked.hasAt(at, sought)) {
                 return at;
             }
         }
@@ -234,7 +235,7 @@ public final class Editropes {
     public int findLast(int rope, int first, int many, int from) throws IndexOutOfBoundsException, IllegalArgumentException {
         Row asked = rowWithWordToFind(rope, first, many, from);
         for (int at = Math.min(from, asked.size - many); at >= 0; at--) {
-            if (asked.hasAt(at, deed.text)) {
+            if (asked.hasAt(at, sought)) {
                 return at;
             }
         }
@@ -557,8 +558,8 @@ public final class Editropes {
         Rope asked = ropeOf(rope);
         needPlace(asked, from);
         needWord(first, many);
-        deed.begin(from, from);
-        deed.text.pushWord(first, many);
+        sought.size = 0;
+        sought.pushWord(first, many);
         return asked.row;
     }
 
@@ -939,7 +940,7 @@ public final class Editropes {
                 left = -left;
             }
             long unit = 1;
-            while (unit < BEYOND_INT && unit * 10 <= left) {
+            while (unit * 10 <= left) {
                 unit *= 10;
             }
             for (; unit > 0; unit /= 10) {
@@ -1014,10 +1015,10 @@ public final class Editropes {
                 if (digit < 0 || digit > 9) {
                     return NO_NUMBER;
                 }
-                value = Math.min(BEYOND_INT, value * 10 + digit);
+                value = Math.min(NO_NUMBER, value * 10 + digit);
             }
             value = below ? -value : value;
-            return value < Integer.MIN_VALUE || value > Integer.MAX_VALUE ? NO_NUMBER : value;
+            return value == (int) value ? value : NO_NUMBER;
         }
     }
 
@@ -1283,21 +1284,22 @@ public final class Editropes {
         }
 
         void fill(Row one, Row two) {
-            for (int i = one.size; i >= 0; i--) {
-                for (int j = two.size; j >= 0; j--) {
-                    lay(i, j, leastOf(one, i, two, j));
-                }
+            for (int j = 0; j <= two.size; j++) {
+                lay(one.size, j, two.size - j);
+            }
+            for (int i = one.size - 1; i >= 0; i--) {
+                fillLine(one, i, two);
             }
         }
 
-        private int leastOf(Row one, int i, Row two, int j) {
-            if (i == one.size || j == two.size) {
-                return one.size - i + two.size - j;
+        private void fillLine(Row one, int i, Row two) {
+            int sign = one.at(i);
+            int least = one.size - i;
+            lay(i, two.size, least);
+            for (int j = two.size - 1; j >= 0; j--) {
+                least = sign == two.at(j) ? at(i + 1, j + 1) : 1 + Math.min(at(i + 1, j), least);
+                lay(i, j, least);
             }
-            if (one.at(i) == two.at(j)) {
-                return at(i + 1, j + 1);
-            }
-            return 1 + Math.min(at(i + 1, j), at(i, j + 1));
         }
     }
 

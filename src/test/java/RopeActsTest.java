@@ -329,6 +329,8 @@ public final class RopeActsTest {
         Checks.index("undo rope MIN", () -> x.undo(MIN));
         undoOfTenAlone();
         undoBeyondForty();
+        undoUpToForty();
+        spliceAfterAnUndoneTurn();
     }
 
     private static void undoOfTenAlone() {
@@ -359,6 +361,24 @@ public final class RopeActsTest {
         x.delete(0, 0, 20);
         Checks.same("undo of what came then", x.undo(0), 9);
         Checks.same("undo beyond 40 once more", x.undo(0), -9);
+    }
+
+    private static void undoUpToForty() {
+        Editropes x = nearlyFull();
+        x.put(0, 0, 4);
+        x.cut(0, 3);
+        Checks.same("undo up to 40", x.undo(0), 7);
+        Checks.same("undo up to 40, length", x.length(0), 40);
+    }
+
+    private static void spliceAfterAnUndoneTurn() {
+        Editropes x = with(0, 3);
+        x.reverse(0);
+        x.undo(0);
+        x.putSign(0, 9);
+        Checks.same("a splice where a turn was undone", x.undoes(0, 0), "3-4:");
+        Checks.same("its undo", x.undo(0), 1);
+        Checks.same("its undo, text", x.text(0), "abc");
     }
 
     private static void refusedChangesNothing() {

@@ -156,7 +156,9 @@ public final class RopeQuestionsTest {
         number("a1", false, 0);
         number("z", false, 0);
         number("1-2", false, 0);
-        Editropes x = new Editropes();
+        Editropes x = with("-5", "");
+        x.cut(0, 0);
+        Checks.same("isNumber when all have gone", x.isNumber(0), false);
         Checks.index("number rope 3", () -> x.number(3));
         Checks.index("number rope -1", () -> x.number(-1));
         Checks.index("isNumber rope 3", () -> x.isNumber(3));
