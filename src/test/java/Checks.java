@@ -24,6 +24,15 @@ final class Checks {
         same(what, outcome(call), "throws.IllegalArgumentException");
     }
 
+    /** The call is REFUSED, which is counted, and nothing else changes. */
+    static void refused(String what, Editropes x, Supplier<Object> call) {
+        String before = Given.state(x);
+        int told = x.house(4);
+        same(what + " is REFUSED", outcome(call), -9);
+        same(what + ": REFUSED is counted", x.house(4), told + 1);
+        same(what + ": nothing changes", Given.state(x), before);
+    }
+
     static Object outcome(Supplier<Object> call) {
         try {
             return call.get();

@@ -2,7 +2,6 @@
 public final class RopeQuestionsTest {
     private static final int MIN = Integer.MIN_VALUE;
     private static final int MAX = Integer.MAX_VALUE;
-    private static final String SIGNS = "abcdefghijklmnopqrstuvwxyz0123456789-";
 
     public static void main(String[] args) {
         promises17To20();
@@ -18,31 +17,18 @@ public final class RopeQuestionsTest {
         Checks.end();
     }
 
-    private static Editropes with(String zero, String one) {
-        Editropes x = new Editropes();
-        write(x, 0, zero);
-        write(x, 1, one);
-        return x;
-    }
-
-    private static void write(Editropes x, int rope, String text) {
-        for (char letter : text.toCharArray()) {
-            x.putSign(rope, SIGNS.indexOf(letter));
-        }
-    }
-
     private static void promises17To20() {
-        Editropes x = with(SIGNS, "");
+        Editropes x = Given.ropes(Given.SIGNS, "");
         Checks.same("length", x.length(0), 37);
         Checks.same("length of none", x.length(1), 0);
-        Checks.same("text", x.text(0), SIGNS);
+        Checks.same("text", x.text(0), Given.SIGNS);
         Checks.same("text of none", x.text(1), "");
         for (int at = 0; at < 37; at++) {
             Checks.same("sign", x.sign(0, at), at);
         }
         Checks.same("part", x.part(0, 24, 28), "yz01");
         Checks.same("part of none", x.part(0, 37, 37), "");
-        Checks.same("part of all", x.part(0, 0, 37), SIGNS);
+        Checks.same("part of all", x.part(0, 0, 37), Given.SIGNS);
         Checks.index("length rope 3", () -> x.length(3));
         Checks.index("length rope -1", () -> x.length(-1));
         Checks.index("text rope 3", () -> x.text(3));
@@ -58,7 +44,7 @@ public final class RopeQuestionsTest {
     }
 
     private static void promise21() {
-        Editropes x = with("abcabcab", "");
+        Editropes x = Given.ropes("abcabcab", "");
         Checks.same("find", x.find(0, 0, 2, 0), 0);
         Checks.same("find from 1", x.find(0, 0, 2, 1), 3);
         Checks.same("find from 3", x.find(0, 0, 2, 3), 3);
@@ -79,7 +65,7 @@ public final class RopeQuestionsTest {
     }
 
     private static void promise22() {
-        Editropes x = with("abcabcab", "");
+        Editropes x = Given.ropes("abcabcab", "");
         Checks.same("findLast", x.findLast(0, 0, 2, 8), 6);
         Checks.same("findLast up to that place", x.findLast(0, 0, 2, 6), 6);
         Checks.same("findLast from 5", x.findLast(0, 0, 2, 5), 3);
@@ -100,7 +86,7 @@ public final class RopeQuestionsTest {
     }
 
     private static void order(String ahead, String behind) {
-        Editropes x = with(ahead, behind);
+        Editropes x = Given.ropes(ahead, behind);
         Checks.same(ahead + " to " + behind, x.compare(0, 1), -1);
         Checks.same(behind + " to " + ahead, x.compare(1, 0), 1);
         Checks.same(ahead + " to itself", x.compare(0, 0), 0);
@@ -116,7 +102,7 @@ public final class RopeQuestionsTest {
         order("", "-");
         order("ab9zz", "aba");
         order("zz", "zza");
-        Editropes x = with("a-9", "a-9");
+        Editropes x = Given.ropes("a-9", "a-9");
         Checks.same("compare the same", x.compare(0, 1), 0);
         Checks.same("compare none to none", x.compare(2, 2), 0);
         Checks.index("compare rope 3", () -> x.compare(3, 0));
@@ -125,7 +111,7 @@ public final class RopeQuestionsTest {
     }
 
     private static void number(String text, boolean isOne, int due) {
-        Editropes x = with(text, "");
+        Editropes x = Given.ropes(text, "");
         Checks.same("isNumber " + text, x.isNumber(0), isOne);
         Checks.same("number " + text, x.number(0), due);
     }
@@ -156,7 +142,7 @@ public final class RopeQuestionsTest {
         number("a1", false, 0);
         number("z", false, 0);
         number("1-2", false, 0);
-        Editropes x = with("-5", "");
+        Editropes x = Given.ropes("-5", "");
         x.cut(0, 0);
         Checks.same("isNumber when all have gone", x.isNumber(0), false);
         Checks.index("number rope 3", () -> x.number(3));
@@ -166,7 +152,7 @@ public final class RopeQuestionsTest {
     }
 
     private static void promises26And27() {
-        Editropes x = with("abc", "");
+        Editropes x = Given.ropes("abc", "");
         Checks.same("history", x.history(0), 3);
         Checks.same("history of none", x.history(1), 0);
         x.reverse(0);
@@ -195,7 +181,7 @@ public final class RopeQuestionsTest {
     }
 
     private static void promise28And29() {
-        Editropes x = with("abcd", "");
+        Editropes x = Given.ropes("abcd", "");
         Checks.same("mark", x.mark(0, 0, 4), -1);
         Checks.same("mark again", x.mark(0, 0, 0), 4);
         Checks.same("place", x.place(0, 0), 0);
@@ -218,7 +204,7 @@ public final class RopeQuestionsTest {
     }
 
     private static void promise30() {
-        Editropes x = with("abcdef", "");
+        Editropes x = Given.ropes("abcdef", "");
         x.mark(0, 0, 1);
         x.mark(0, 1, 4);
         Checks.same("span", x.span(0, 0, 1), "bcd");
@@ -237,7 +223,7 @@ public final class RopeQuestionsTest {
     }
 
     private static void carried(int from, int to, int many, int mark, int due) {
-        Editropes x = with("abcdefgh", "");
+        Editropes x = Given.ropes("abcdefgh", "");
         x.mark(0, 2, mark);
         x.replace(0, from, to, 0, many);
         Checks.same("mark " + mark + " by " + from + "-" + to + " of " + many, x.place(0, 2), due);
@@ -256,7 +242,7 @@ public final class RopeQuestionsTest {
         carried(0, 8, 0, 8, 0);
         carried(0, 8, 0, 0, 0);
         carried(0, 0, 3, -1, -1);
-        Editropes x = with("abcdef", "");
+        Editropes x = Given.ropes("abcdef", "");
         x.mark(0, 0, 0);
         x.mark(0, 1, 2);
         x.mark(0, 2, 6);
@@ -279,7 +265,7 @@ public final class RopeQuestionsTest {
     }
 
     private static void questionsChangeNothing() {
-        Editropes x = with("abcabc", "12");
+        Editropes x = Given.ropes("abcabc", "12");
         x.mark(0, 0, 2);
         long digest = x.digest();
         x.find(0, 0, 2, 1);

@@ -2,7 +2,6 @@
 public final class ScriptsTest {
     private static final int MIN = Integer.MIN_VALUE;
     private static final int MAX = Integer.MAX_VALUE;
-    private static final String SIGNS = "abcdefghijklmnopqrstuvwxyz0123456789-";
 
     public static void main(String[] args) {
         promise31();
@@ -19,19 +18,6 @@ public final class ScriptsTest {
         promise43();
         promise44();
         Checks.end();
-    }
-
-    private static void write(Editropes x, int rope, String text) {
-        for (char letter : text.toCharArray()) {
-            x.putSign(rope, SIGNS.indexOf(letter));
-        }
-    }
-
-    /** A new object with rope 0. */
-    private static Editropes with(String text) {
-        Editropes x = new Editropes();
-        write(x, 0, text);
-        return x;
     }
 
     private static Editropes withFull(int script) {
@@ -109,7 +95,7 @@ public final class ScriptsTest {
     }
 
     private static void promises35And36() {
-        Editropes x = with("abcdef");
+        Editropes x = Given.ropes("abcdef");
         Checks.same("no splices fit", x.fits(0, 0), true);
         Checks.same("no splices make the same", x.makes(0, 0), "abcdef");
         x.add(0, 4, 6, 26, 3);
@@ -125,7 +111,7 @@ public final class ScriptsTest {
         Checks.same("to beyond what was made", x.makes(0, 0), "!");
         x.less(0, 1);
         Checks.same("to at the end of what was made", x.makes(0, 0), "abcd01299-");
-        Editropes y = with("0123456789012345678901234567890123456789");
+        Editropes y = Given.ropes(Given.digits(40));
         y.add(0, 0, 0, 0, 1);
         Checks.same("41 in the end", y.fits(0, 0), false);
         Checks.same("makes of 41", y.makes(0, 0), "!");
@@ -142,7 +128,7 @@ public final class ScriptsTest {
     }
 
     private static void promise37() {
-        Editropes x = with("abcdef");
+        Editropes x = Given.ropes("abcdef");
         x.add(0, 4, 6, 26, 3);
         x.add(0, 0, 2, 36, 1);
         Checks.same("run", x.run(0, 0), 6);
@@ -199,7 +185,7 @@ public final class ScriptsTest {
     }
 
     private static void promise39() {
-        Editropes x = with("abcdef");
+        Editropes x = Given.ropes("abcdef");
         x.add(0, 1, 3, 26, 3);
         x.add(0, 4, 7, 0, 0);
         x.add(0, 0, 0, 36, 1);
@@ -222,7 +208,7 @@ public final class ScriptsTest {
     }
 
     private static void promise40() {
-        Editropes x = with("abcdef");
+        Editropes x = Given.ropes("abcdef");
         x.add(0, 1, 3, 26, 3);
         x.add(0, 5, 7, 0, 0);
         x.add(0, 0, 0, 30, 2);
@@ -263,7 +249,7 @@ public final class ScriptsTest {
         neighbours(0, 10, 0, 1, 1, 2, "11-11:kl 0-10:");
         neighbours(0, 0, 0, 0, 0, 0, "");
         neighbours(3, 3, 0, 0, 2, 0, "0-2: 1-1:");
-        Editropes x = with("abcdefgh");
+        Editropes x = Given.ropes("abcdefgh");
         x.add(0, 6, 7, 10, 3);
         x.add(0, 2, 4, 20, 1);
         x.add(0, 8, 8, 30, 1);
@@ -297,7 +283,7 @@ public final class ScriptsTest {
     }
 
     private static void promise42() {
-        Editropes x = with("abcdefghijkl");
+        Editropes x = Given.ropes("abcdefghijkl");
         x.add(0, 2, 4, 20, 5);
         x.add(0, 9, 10, 0, 0);
         x.add(1, 8, 9, 30, 1);
@@ -319,7 +305,7 @@ public final class ScriptsTest {
     }
 
     private static void laterSplicesMeetMovedOnes() {
-        Editropes x = with("abcdefghij");
+        Editropes x = Given.ropes("abcdefghij");
         x.add(0, 5, 6, 26, 1);
         x.add(1, 0, 0, 0, 4);
         x.add(1, 8, 8, 10, 2);
@@ -364,9 +350,7 @@ public final class ScriptsTest {
     }
 
     private static void between(String one, String other, String due, int least) {
-        Editropes x = new Editropes();
-        write(x, 0, one);
-        write(x, 1, other);
+        Editropes x = Given.ropes(one, other);
         String what = "between " + one + " and " + other;
         int splices = due.isEmpty() ? 0 : due.split(" ").length;
         Checks.same(what, x.between(0, 1, 3), splices);
@@ -405,8 +389,7 @@ public final class ScriptsTest {
     }
 
     private static void promise44() {
-        Editropes x = with("0123456789012345678901234567890123456789");
-        write(x, 1, "aaaaaaaaaaaaaaaaaaaaaaaaaaaaaaaaaaaaaaaa");
+        Editropes x = Given.ropes(Given.digits(40), "a".repeat(40));
         Checks.same("least of all", x.least(0, 1), 80);
         Checks.same("least to none", x.least(0, 2), 40);
         Checks.same("least from none", x.least(2, 1), 40);

@@ -1,3 +1,5 @@
+import java.math.BigInteger;
+
 /** Promises 45 to 48: house, knock, isSound, digest. */
 public final class WholeTest {
     public static void main(String[] args) {
@@ -88,9 +90,13 @@ public final class WholeTest {
         }
     }
 
-    /** The document's order, told by the other calls of the face. */
-    private static long digestOf(Editropes x) {
-        long[] sum = {7809};
+    static long digestOf(Editropes x) {
+        return sumOf(x).longValue();
+    }
+
+    /** The document's order, told by the other calls of the face, in a number that never wraps around. */
+    static BigInteger sumOf(Editropes x) {
+        BigInteger[] sum = {BigInteger.valueOf(7809)};
         for (int what = 0; what < 6; what++) {
             take(sum, x.house(what));
         }
@@ -123,11 +129,11 @@ public final class WholeTest {
         return sum[0];
     }
 
-    private static void take(long[] sum, long value) {
-        sum[0] = sum[0] * 31 + value;
+    private static void take(BigInteger[] sum, long value) {
+        sum[0] = sum[0].multiply(BigInteger.valueOf(31)).add(BigInteger.valueOf(value));
     }
 
-    private static void take(long[] sum, String text) {
+    private static void take(BigInteger[] sum, String text) {
         for (char letter : text.toCharArray()) {
             take(sum, letter);
         }
