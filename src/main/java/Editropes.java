@@ -23,6 +23,8 @@ public final class Editropes {
     private static final int MOST_BETWEEN_SPLICES = MOST_SIGNS + MOST_SPLICES * MOST_SIGNS;
     // Eight splices of 40 signs and two numbers of eleven signs each.
     private static final int LONGEST_LINE = 600;
+    // That of the first digit of the longest int.
+    private static final long GREATEST_UNIT = 1_000_000_000L;
     // Above what an int can be, and far from where a long wraps around.
     private static final long NO_NUMBER = 10_000_000_000L;
 
@@ -939,12 +941,10 @@ public final class Editropes {
                 push(DASH);
                 left = -left;
             }
-            long unit = 1;
-            while (unit * 10 <= left) {
-                unit *= 10;
-            }
-            for (; unit > 0; unit /= 10) {
-                push(FIRST_DIGIT + (int) (left / unit % 10));
+            for (long unit = GREATEST_UNIT; unit > 0; unit /= 10) {
+                if (unit <= left || unit == 1) {
+                    push(FIRST_DIGIT + (int) (left / unit % 10));
+                }
             }
         }
 
